@@ -1,0 +1,20 @@
+/** Counts the wrong answers of one test, prints each, and ends the test. */
+final class Check {
+    private int wrong = 0;
+    private int made = 0;
+
+    void due(String call, long got, long want) {
+        made++;
+        if (got != want) {
+            wrong++;
+            System.out.println(call + " answered " + got + ", due is " + want);
+        }
+    }
+
+    void end() {
+        System.out.println(made + " answers, " + wrong + " not as due");
+        if (wrong != 0) {
+            System.exit(1);
+        }
+    }
+}
