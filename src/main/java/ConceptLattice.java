@@ -4,7 +4,8 @@ public final class ConceptLattice {
     private static final int MOST_OBJECTS = 8;
     private static final int LEAST_ATTRIBUTES = 2;
     private static final int MOST_ATTRIBUTES = 7;
-    private static final int MOST_SETS = 1 << MOST_ATTRIBUTES;
+    // 2 to the power MOST_ATTRIBUTES.
+    private static final int MOST_SETS = 128;
 
     private final int objectCount;
     private final int attributeCount;

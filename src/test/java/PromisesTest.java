@@ -242,6 +242,8 @@ public final class PromisesTest {
         for (int bad : new int[] {-1, 5, 16, LEAST, MOST}) {
             due("closedSet(" + bad + ")", x.closedSet(bad), -1);
         }
+        due("closedSet(0) of pentagon", pentagon().closedSet(0), 0);
+        due("closedSet(4) of pentagon", pentagon().closedSet(4), 7);
     }
 
     // Promise 12
@@ -380,6 +382,7 @@ public final class PromisesTest {
         due("row(0, 1)", y.row(0, 1), 0);
         due("dispensable(0) of one cross", y.dispensable(0), 1);
         due("dispensable(1) of one cross", y.dispensable(1), 0);
+        due("dispensable(2) of pentagon: 0 and 4", pentagon().dispensable(2), 0);
         due("dispensable(6) of a chain", table(7, 0, 1, 3, 7, 15, 31, 63).dispensable(6), 0);
     }
 }
