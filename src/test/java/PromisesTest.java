@@ -1,7 +1,7 @@
 /** Each promise by hand: ordinary inputs, the edges that the document names, and wrong inputs. */
 public final class PromisesTest {
-    private static final int LEAST = Integer.MIN_VALUE;
-    private static final int MOST = Integer.MAX_VALUE;
+    private static final int LEAST = Tables.LEAST;
+    private static final int MOST = Tables.MOST;
     private static final Check CHECK = new Check();
 
     public static void main(String[] args) {
@@ -34,22 +34,15 @@ public final class PromisesTest {
     }
 
     private static ConceptLattice table(int attributes, int... rows) {
-        ConceptLattice x = new ConceptLattice(rows.length, attributes);
-        for (int object = 0; object < rows.length; object++) {
-            due("row of a new object", x.row(object, rows[object]), 0);
-        }
-        return x;
+        return Tables.table(attributes, rows);
     }
 
-    // Objects 0 {0,1}, 1 {1,2}, 2 {0,1,2}; no object has attribute 3.
-    // Closed: {1}, {0,1}, {1,2}, {0,1,2}, {0,1,2,3}.
     private static ConceptLattice kite() {
-        return table(4, 3, 6, 7);
+        return Tables.kite();
     }
 
-    // The closed sets are 0, 1, 3, 4 and 7: a pentagon, with chains of different length.
     private static ConceptLattice pentagon() {
-        return table(3, 3, 1, 4);
+        return Tables.pentagon();
     }
 
     // Promise 1
